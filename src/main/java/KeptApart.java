@@ -1204,15 +1204,17 @@ public final class KeptApart {
             cargo.reset();
         }
 
+        /** Reads the rows themselves: it stands below the deepest chains of calls, and is asked most often. */
         boolean isFar(int a, int b, int l) {
             int bayA = read(hull.bayRow, a);
             int bayB = read(hull.bayRow, b);
             int walls = read(rules.walls, l);
             int shut = Math.abs(read(hull.shutAhead, bayA) - read(hull.shutAhead, bayB));
+            boolean hatch = read(hull.tierRow, a) >= hull.hold != read(hull.tierRow, b) >= hull.hold;
             return Math.abs(read(hull.rowRow, a) - read(hull.rowRow, b)) >= read(rules.across, l)
                 || Math.abs(bayA - bayB) >= read(rules.along, l)
                 || walls != 0 && shut >= walls
-                || read(rules.hatch, l) == 1 && hull.isDeck(a) != hull.isDeck(b);
+                || read(rules.hatch, l) == 1 && hatch;
         }
 
         /** The least box near to one of a kind in a place, itself (or NONE) being left aside. */
