@@ -44,8 +44,7 @@ public final class KeptApart {
     private static final int DECK_ONLY = 1;
     private static final int HOLD_ONLY = 2;
 
-    private final Tape tape = new Tape();
-    private final Reader reader = new Reader(tape);
+    private final Reader reader = new Reader();
     private final History history = new History();
     private final Loader loader = new Loader();
     private final Shifter shifter = new Shifter();
@@ -58,6 +57,7 @@ public final class KeptApart {
     }
 
     public int feed(int a, int b, int c, int d, int e) {
+        Tape tape = reader.tape;
         if (!tape.hasRoom(20)) {
             return NONE;
         }
@@ -70,16 +70,16 @@ public final class KeptApart {
     }
 
     public int end(int n) {
-        if (!within(n, 0, tape.size)) {
+        if (!within(n, 0, reader.tape.size)) {
             return NONE;
         }
-        tape.size = n;
+        reader.tape.size = n;
         return n;
     }
 
     public int ship() {
         int lines = reader.readText();
-        tape.size = 0;
+        reader.tape.size = 0;
         if (reader.fault != 0) {
             return FAULTY;
         }
@@ -101,7 +101,7 @@ public final class KeptApart {
 
     public int count(int what) {
         if (what == 10) {
-            return tape.size;
+            return reader.tape.size;
         }
         if (what == 11) {
             return page.size;
@@ -628,12 +628,8 @@ public final class KeptApart {
 
         int fault = 0;
         int faultPlace = NONE;
-        private final Tape tape;
+        final Tape tape = new Tape();
         private Vessel draft = new Vessel();
-
-        Reader(Tape text) {
-            tape = text;
-        }
 
         /** The vessel that was read; the old one is the next draft. */
         Vessel handOver(Vessel old) {

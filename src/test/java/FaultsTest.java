@@ -93,6 +93,13 @@ public final class FaultsTest {
         text(1, SHIP + "kind |anywhere;");
         text(1, SHIP + "kind deck |hold;");
         text(1, SHIP + "kind |0;");
+        text(1, SHIP + "kind |deckz;");
+        text(1, SHIP + "kind |adeck;");
+        text(1, SHIP + "kind |dec k;");
+        text(1, SHIP + "kind deck|{;");
+        text(1, SHIP + "kind deck|`;");
+        text(1, SHIP + "wall 0|/;");
+        text(1, SHIP + "wall 0|:;");
         text(1, SHIP + "wall |;");
         text(1, SHIP + "wall |door;");
         text(1, SHIP + "wall 0 |open;");

@@ -41,6 +41,9 @@ public final class PromisesTest {
         clear();
         swaps();
         steady();
+        fullSize();
+        fullSizeLoading();
+        oneTextBehindAnother();
         CHECKS.close("PromisesTest");
     }
 
@@ -491,6 +494,11 @@ public final class PromisesTest {
         due("restows(3)", x.restows(3), 0);
         due("restows(4): one, though above two", x.restows(4), 1);
         due("restows(5)", x.restows(5), 0);
+        x.clears();
+        x.puts(1, 0);
+        x.puts(0, 1);
+        due("over(), the lesser box above", x.over(), 1);
+        due("restows(1), the lesser box above", x.restows(1), 1);
         due("restows(0)", x.restows(0), -2);
         due("restows(6)", x.restows(6), -2);
     }
@@ -642,6 +650,7 @@ public final class PromisesTest {
         due("shifts(2, 1, 1)", x.shifts(2, 1, 1), -2);
         due("shifts(-1, 1, 1)", x.shifts(-1, 1, 1), -2);
         due("shifts(0, 0, 1)", x.shifts(0, 0, 1), -2);
+        due("shifts(0, 99, 1)", x.shifts(0, 99, 1), 0);
         due("shifts(0, 100, 1)", x.shifts(0, 100, 1), -2);
         due("shifts(0, 1, 0)", x.shifts(0, 1, 0), -2);
         due("shifts(0, 1, 50001)", x.shifts(0, 1, 50001), -2);
@@ -690,6 +699,28 @@ public final class PromisesTest {
         due("five puts", x.shifts(0, 5, 5), 2);
         due("four are too few", x.shifts(0, 5, 4), -3);
         due("all lie where they lay", x.stack(0, 0, 0, 1), 0);
+        // nothing shown is left of the two behind one that fails
+        x.puts(0, 5);
+        x.books(0, 5, 1);
+        due("puts(4, ..)", x.puts(1, 3), 0);
+        due("puts(4, 0)", x.puts(4, 0), 0);
+        // stacks 5 | 3 2 | 4 1, all bear 5: 0 and 1 can go nowhere, nor can 4
+        due("a full ship", x.shifts(0, 1, 9), -1);
+        for (int i = 0; i < 2; i++) {
+            due("shift(" + i + ", 0)", x.shift(i, 0), -1);
+            due("shift(" + i + ", 1)", x.shift(i, 1), -1);
+        }
+        // to the least place, and a limit that is just reached where there is no way
+        x = told("ship bays 3 rows 1 hold 1 deck 0;level 1 across 9 along 2;kind;kind;apart 0 1 1;box 0 weight 1;");
+        x.puts(0, 1);
+        due("to place 0", x.shifts(1, 1, 9), 1);
+        due("shift(0, 1)", x.shift(0, 1), 0);
+        due("shift(2, 1)", x.shift(2, 1), 2);
+        x = told("ship bays 3 rows 1 hold 1 deck 0;level 1 across 9 along 9;kind;kind;apart 0 1 1;box 0 weight 1;");
+        x.puts(0, 1);
+        // 0>0, 0>2 alone, and both again ahead of a second one that there is not
+        due("four puts", x.shifts(1, 1, 4), -1);
+        due("three are too few", x.shifts(1, 1, 3), -3);
     }
 
     /** Promises 37 to 39. */
@@ -922,6 +953,7 @@ public final class PromisesTest {
         x.puts(0, 0);
         due("from where it lies", x.loosest(0), 2);
         due("another kind", x.loosest(3), 2);
+        due("far from box 0, too", x.loosest(1), 3);
         due("loosest(4)", x.loosest(4), -2);
         due("loosest(-1)", x.loosest(-1), -2);
         x = told("ship bays 1 rows 1 hold 1 deck 0;kind;box 0 weight 1;box 0 weight 1;");
@@ -1040,5 +1072,113 @@ public final class PromisesTest {
         x.puts(2, 2);
         due("lean(0)", x.lean(0), -13);
         due("steady()", x.steady(), 2);
+    }
+
+    /** The last bay, row, tier, box: all rows are long enough. */
+    private static void fullSize() {
+        KeptApart x = told("ship bays 6 rows 4 hold 3 deck 3;wall 4 door;wall 0;level 4 across 9 along 9 walls 1;" + "kind;".repeat(7)
+            + "apart 6 5 4;" + "box 5 weight 9 port 4;".repeat(22) + "box 5 weight 9;box 6 weight 99 port 5;");
+        due("wall(4)", x.wall(4), 2);
+        due("wall(5)", x.wall(5), -2);
+        due("puts(23, 141)", x.puts(23, 141), 0);
+        due("count(6)", x.count(6), 1);
+        due("at(141)", x.at(141), 23);
+        due("at(143)", x.at(143), -1);
+        due("at(144)", x.at(144), -2);
+        due("between(143, 24, 2)", x.between(143, 24, 2), 0);
+        due("between(143, 0, 2)", x.between(143, 0, 2), 1);
+        due("why(22, 118)", x.why(22, 118), 2);
+        due("why(22, 117)", x.why(22, 117), 6);
+        due("nearIn(22, 117)", x.nearIn(22, 117), 23);
+        due("opens(4, 0)", x.opens(4, 0), 0);
+        due("between(143, 24, 2)", x.between(143, 24, 2), 1);
+        due("puts(22, 117)", x.puts(22, 117), 0);
+        due("doors(0)", x.doors(0), 0);
+        due("doors(1)", x.doors(1), 0);
+        due("wall(4) as it was", x.wall(4), 3);
+        due("opens(4, 1)", x.opens(4, 1), 1);
+        due("near(0)", x.near(0), 2223);
+        due("nearTo(23)", x.nearTo(23), 1);
+        due("undo()", x.undo(), 3);
+        due("wall(4)", x.wall(4), 3);
+        due("far(143, 119, 4)", x.far(143, 119, 4), 1);
+        due("clear(5, NONE): bays but the last", x.clear(5, -1), 144 - 24 - 1);
+        due("clear(5, 118)", x.clear(5, 118), 119);
+        due("lean(0)", x.lean(0), 99 * 5 + 9 * 3);
+        due("lean(1)", x.lean(1), 108 * 3);
+        due("lean(2)", x.lean(2), 108 * 3);
+        due("weighs(5, 3, 1)", x.weighs(5, 3, 1), 99);
+        due("kindsIn(5)", x.kindsIn(5), 64);
+        due("bayOf(8, 6)", x.bayOf(8, 6), -1);
+        due("free(0)", x.free(0), 142);
+        due("clears()", x.clears(), 2);
+        due("undo()", x.undo(), 3);
+        due("box(23, 3)", x.box(23, 3), 141);
+        due("lifts(22)", x.lifts(22), 117);
+        due("loads()", x.loads(), 23);
+        due("hang(0): a wall behind bay 0", x.hang(0), 12);
+        due("hang(3): on deck", x.hang(3), 11);
+        due("hang(141)", x.hang(141), 1);
+        due("stack(5, 3, 1, 0)", x.stack(5, 3, 1, 0), 23);
+        due("restows(4)", x.restows(4), 1);
+        due("over()", x.over(), 0);
+        x.label(22);
+        CHECKS.due("the label", Texts.out(x), "w 5 9 1 22");
+        due("puts(22, 99)", x.puts(22, 99), 0);
+        x.puts(22, 102);
+        due("label(22)", x.label(22), 10 + 1);
+        due("puts(21, 96)", x.puts(21, 96), 0);
+        due("puts(20, 97)", x.puts(20, 97), 0);
+        x = told("ship bays 6 rows 4 hold 3 deck 2;kind;box 0 weight 1;");
+        due("puts(0, 100)", x.puts(0, 100), 0);
+        due("label(0)", x.label(0), 11);
+        CHECKS.due("the label", Texts.out(x), "a 0 1 1 100");
+        due("at(119)", x.at(119), -1);
+        due("at(120)", x.at(120), -2);
+    }
+
+    /** 24 boxes loaded, taken and taken back; a late one beside them. */
+    private static void fullSizeLoading() {
+        KeptApart x = told("ship bays 6 rows 4 hold 0 deck 1;kind;kind;level 1 across 9 along 9;apart 0 1 1;" + "box 0 weight 7;".repeat(24));
+        due("effort(50000)", x.effort(50000), 24);
+        due("effort(23)", x.effort(23), -3);
+        due("load(24)", x.load(24), 0);
+        due("told(23)", x.told(23), 23);
+        due("takes()", x.takes(), 24);
+        due("a full ship", x.shifts(0, 1, 50000), -1);
+        due("hang(23)", x.hang(23), 24);
+        due("undo()", x.undo(), 0);
+        due("count(6)", x.count(6), 0);
+        due("greedy()", x.greedy(), 0);
+        due("told(23)", x.told(23), 23);
+        due("loads()", x.loads(), 24);
+        due("lifts(23)", x.lifts(23), 23);
+        due("lifts(0)", x.lifts(0), 0);
+        due("a late one of another kind", x.shifts(1, 1, 50), -3);
+        due("a late one of the same kind", x.shifts(0, 99, 50), 0);
+        due("shift(2, 1)", x.shift(2, 1), 0);
+        due("the late one is no box", x.box(24, 0), -2);
+        due("clears()", x.clears(), 22);
+    }
+
+    /** Nothing of an earlier text is left, nor of the one ahead of it. */
+    private static void oneTextBehindAnother() {
+        KeptApart x = told("ship bays 6 rows 2 hold 2 deck 1;wall 0;wall 1;wall 2;bears 5 5;level 1 across 1 along 1;level 2 across 1 along 1;"
+            + "kind;kind;kind;apart 0 1 1;box 0 weight 5;box 1 weight 5;box 2 weight 5;");
+        x.loads();
+        x.shifts(0, 1, 9);
+        due("a second text", Texts.ship(x, "ship bays 2 rows 1 hold 1 deck 0;kind;"), 2);
+        due("a third text", Texts.ship(x, "ship bays 6 rows 2 hold 2 deck 1;level 2 across 9 along 9 walls 1;kind;kind hold;apart 0 1 2;box 0 weight 7;box 1 weight 7;"), 7);
+        due("between", x.between(0, 35, 2), 0);
+        due("count(7)", x.count(7), 999);
+        due("level(1, 0)", x.level(1, 0), -2);
+        due("level(2, 3)", x.level(2, 3), 0);
+        due("kind(0)", x.kind(0), 0);
+        due("apart(0, 0)", x.apart(0, 0), 0);
+        due("free(0)", x.free(0), 36);
+        due("puts(0, 0)", x.puts(0, 0), 0);
+        due("puts(1, 33)", x.puts(1, 33), 6);
+        due("shift(0, 0)", x.shift(0, 0), -1);
+        due("told(0)", x.told(0), -6);
     }
 }
