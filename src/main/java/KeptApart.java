@@ -1206,7 +1206,7 @@ public final class KeptApart {
             int bayB = read(hull.bayRow, b);
             int walls = read(rules.walls, l);
             int shut = Math.abs(read(hull.shutAhead, bayA) - read(hull.shutAhead, bayB));
-            boolean hatch = read(hull.tierRow, a) >= hull.hold != read(hull.tierRow, b) >= hull.hold;
+            boolean hatch = (read(hull.tierRow, a) >= hull.hold) != (read(hull.tierRow, b) >= hull.hold);
             return Math.abs(read(hull.rowRow, a) - read(hull.rowRow, b)) >= read(rules.across, l)
                 || Math.abs(bayA - bayB) >= read(rules.along, l)
                 || walls != 0 && shut >= walls
@@ -1229,6 +1229,7 @@ public final class KeptApart {
             return l != 0 && !isFar(cargo.placeOf(a), cargo.placeOf(b), l);
         }
 
+        /** The document's numbers of WHY, cheapest first as it happens; 0, if the box may come there. */
         int whyNot(int b, int place) {
             if (cargo.boxAt(place) != NONE) {
                 return 1;
