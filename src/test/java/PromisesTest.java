@@ -983,6 +983,13 @@ public final class PromisesTest {
         // hold 2 2 5: one in 2; deck 3 2 4: one in 2 (4), then 3 4: one in 3
         due("voyage(0)", x.voyage(0), 3);
         due("voyage(1)", x.voyage(1), 2);
+        x = told(TOWER + "kind;box 0 weight 9 port 1;box 0 weight 9 port 2;box 0 weight 9 port 3;");
+        for (int b = 0; b < 3; b++) {
+            x.puts(b, b);
+        }
+        // two come back in 1, one of them again in 2
+        due("voyage(0)", x.voyage(0), 3);
+        due("voyage(1)", x.voyage(1), 1);
     }
 
     /** Promise 50. */
@@ -1127,8 +1134,17 @@ public final class PromisesTest {
         due("puts(22, 99)", x.puts(22, 99), 0);
         x.puts(22, 102);
         due("label(22)", x.label(22), 10 + 1);
-        due("puts(21, 96)", x.puts(21, 96), 0);
-        due("puts(20, 97)", x.puts(20, 97), 0);
+        x.clears();
+        due("puts(21, 141)", x.puts(21, 141), 0);
+        due("puts(20, 142)", x.puts(20, 142), 0);
+        due("puts(19, 143)", x.puts(19, 143), 0);
+        due("at(143)", x.at(143), 19);
+        due("box(19, 3)", x.box(19, 3), 143);
+        due("weighs(5, 3, 1)", x.weighs(5, 3, 1), 27);
+        due("lean(1)", x.lean(1), 27 * 3);
+        due("lean(2)", x.lean(2), 9 * (3 + 4 + 5));
+        due("lifts(20)", x.lifts(20), -5);
+        due("hang(143)", x.hang(143), 3);
         x = told("ship bays 6 rows 4 hold 3 deck 2;kind;box 0 weight 1;");
         due("puts(0, 100)", x.puts(0, 100), 0);
         due("label(0)", x.label(0), 11);
@@ -1147,6 +1163,7 @@ public final class PromisesTest {
         due("takes()", x.takes(), 24);
         due("a full ship", x.shifts(0, 1, 50000), -1);
         due("hang(23)", x.hang(23), 24);
+        due("hang(0)", x.hang(0), 24);
         due("undo()", x.undo(), 0);
         due("count(6)", x.count(6), 0);
         due("greedy()", x.greedy(), 0);
@@ -1158,6 +1175,7 @@ public final class PromisesTest {
         due("a late one of the same kind", x.shifts(0, 99, 50), 0);
         due("shift(2, 1)", x.shift(2, 1), 0);
         due("the late one is no box", x.box(24, 0), -2);
+        due("nor is it the last one", x.box(23, 1), 7);
         due("clears()", x.clears(), 22);
     }
 
