@@ -149,8 +149,8 @@ public final class RandomRunsTest {
     private String text(boolean big) {
         int bays = 1 + upTo(big ? 5 : 2);
         int rows = 1 + upTo(big ? 3 : 1);
-        int hold = upTo(big ? 3 : 2);
-        int deck = hold == 0 ? 1 + upTo(1) : upTo(2);
+        int hold = upTo(random.nextInt(3) == 0 ? 3 : 2);
+        int deck = hold == 0 ? 1 + upTo(2) : upTo(3);
         StringBuilder sb = new StringBuilder();
         sb.append("ship bays " + bays + " rows " + rows + " hold " + hold + " deck " + deck + ";");
         for (int bay = 0; bay + 1 < bays; bay++) {
@@ -177,9 +177,11 @@ public final class RandomRunsTest {
                 }
             }
         }
+        // boxes of one weight make high stacks
+        boolean even = random.nextInt(3) == 0;
         int boxes = kinds == 0 ? 0 : upTo(random.nextInt(4) == 0 ? 24 : 9);
         for (int b = 0; b < boxes && sb.length() < 870; b++) {
-            sb.append("box " + upTo(kinds - 1) + " weight " + (1 + upTo(random.nextBoolean() ? 98 : 5)) + (random.nextBoolean() ? " port " + (1 + upTo(4)) + ";" : ";"));
+            sb.append("box " + upTo(kinds - 1) + " weight " + (even ? 5 : 1 + upTo(random.nextBoolean() ? 98 : 5)) + (random.nextBoolean() ? " port " + (1 + upTo(4)) + ";" : ";"));
         }
         return sb.length() > 890 ? sb.substring(0, 890) : sb.toString();
     }
