@@ -650,6 +650,9 @@ final class PlaceSentences {
         s.due("two for each BAY and ROW", x.free(1), 48);
         x.puts(0, 0);
         s.due("right on it", x.free(1), 48);
+        KeptApart low = s.ship("ship bays 1 rows 1 hold 2 deck 0;kind;box 0 weight 1;");
+        low.puts(0, 0);
+        s.due("the highest one, right on it", low.free(1), 1);
         KeptApart two = s.ship("ship bays 1 rows 1 hold 3 deck 0;kind;box 0 weight 1;box 0 weight 1;box 0 weight 1;");
         two.puts(0, 0);
         s.due("on one: the highest one would hang", two.free(1), 1);

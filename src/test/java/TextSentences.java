@@ -41,7 +41,7 @@ final class TextSentences {
         for (int bay = 0; bay < 5; bay++) {
             sb.append("wall ").append(bay).append(bay % 2 == 0 ? " door;" : ";");
         }
-        sb.append("bears 999 998;");
+        sb.append("bears 998 997;");
         for (int l = 1; l <= 4; l++) {
             sb.append("level ").append(l).append("across9along9;");
         }
@@ -186,6 +186,10 @@ final class TextSentences {
         nothingOfAnother(x);
         s.due("and again", Texts.ship(x, "ship bays 6 rows 4 hold 3 deck 2;kind;kind;kind;level 2 across 1 along 1;"), 5);
         nothingOfAnother(x);
+        s.due("all there can be", Texts.ship(x, FULL), 70);
+        s.due("a FAULT behind it", Texts.ship(x, FULL + "bears 1 1;"), -4);
+        s.due("all there can be, told again behind itself", Texts.ship(x, FULL), 70);
+        s.due("and again", Texts.ship(x, FULL), 70);
 
         s.says("4", "what LOADING, SHIFTS told last is gone,");
         String two = "ship bays 1 rows 2 hold 1 deck 0;kind;box 0 weight 1;";
@@ -224,8 +228,8 @@ final class TextSentences {
         for (int what = 0; what < full.length; what++) {
             s.due("count(" + what + ")", x.count(what), full[what]);
         }
-        s.due("count(7)", x.count(7), 999);
-        s.due("count(8)", x.count(8), 998);
+        s.due("count(7)", x.count(7), 998);
+        s.due("count(8)", x.count(8), 997);
         s.due("acts", x.count(9), 1);
         s.due("box(23, 3)", x.box(23, 3), place);
         s.due("told(23)", x.told(23), told);
